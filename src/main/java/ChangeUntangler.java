@@ -8,6 +8,8 @@ public final class ChangeUntangler {
     private static final int EVERY_NAME = (1 << NAME_COUNT) - 1;
     /** Beyond this number of parcels the document asks for no best order. */
     private static final int MOST_TO_ORDER = 9;
+    /** Greater than any affinity and any breakage. */
+    private static final int BEYOND_ALL = 1000000;
 
     private static final int GREATEST_FILE = 9;
     private static final int GREATEST_LINE = 9999;
@@ -450,7 +452,7 @@ public final class ChangeUntangler {
     private static final class Pieces {
         int count;
         final int[] files = new int[MOST_PIECES];
-        final int[] places = new int[MOST_PIECES];
+        final int[] startLines = new int[MOST_PIECES];
         final int[] added = new int[MOST_PIECES];
         final int[] taken = new int[MOST_PIECES];
         final int[] purposes = new int[MOST_PIECES];
@@ -473,7 +475,7 @@ public final class ChangeUntangler {
                 return -1;
             }
             files[piece] = file;
-            places[piece] = line;
+            startLines[piece] = line;
             added[piece] = linesAdded;
             taken[piece] = linesTaken;
             purposes[piece] = 0;
@@ -545,7 +547,7 @@ public final class ChangeUntangler {
             long mixed = mix(d, count);
             for (int piece = 0; piece < count; piece++) {
                 mixed = mix(mixed, files[piece]);
-                mixed = mix(mixed, places[piece]);
+                mixed = mix(mixed, startLines[piece]);
                 mixed = mix(mixed, added[piece]);
                 mixed = mix(mixed, taken[piece]);
                 for (int what = 0; what < SET_COUNT; what++) {
@@ -632,7 +634,7 @@ public final class ChangeUntangler {
         }
 
         private boolean isNear(Pieces pieces, int a, int b) {
-            return pieces.files[a] == pieces.files[b] && Math.abs(pieces.places[a] - pieces.places[b]) <= span;
+            return pieces.files[a] == pieces.files[b] && Math.abs(pieces.startLines[a] - pieces.startLines[b]) <= span;
         }
 
         private static int shareOf(int weight, int namesOfOne, int namesOfOther) {
@@ -781,7 +783,7 @@ public final class ChangeUntangler {
 
         int linkageOf(int set, int otherSet) {
             int greatest = 0;
-            int least = Integer.MAX_VALUE;
+            int least = BEYOND_ALL;
             int sum = 0;
             for (int a = 0; a < MOST_PIECES; a++) {
                 for (int b = 0; b < MOST_PIECES && isIn(a, set); b++) {
@@ -934,7 +936,7 @@ public final class ChangeUntangler {
         /** The smallest of the parcels that break least when they come next; -1 if none is left. */
         private int nextAfter(int chosen) {
             int found = -1;
-            int leastThen = Integer.MAX_VALUE;
+            int leastThen = BEYOND_ALL;
             for (int parcel = 0; parcel < length; parcel++) {
                 if (!isIn(parcel, chosen) && fromThen[chosen | 1 << parcel] < leastThen) {
                     leastThen = fromThen[chosen | 1 << parcel];

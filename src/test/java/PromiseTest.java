@@ -208,6 +208,9 @@ public final class PromiseTest {
         Check.same("what joined two through it is gone", 0, x.say(0, 1, 1));
         x.say(0, 1, 0);
         x.addPiece(3, 0, 1, 1);
+        Check.same("nothing is said of the next", "1 2 4", groups(x));
+        Check.same("nothing is said of the next", 0, x.say(2, 0, 2));
+        x.say(2, 0, 0);
         Check.same("the next has no names", 0, x.names(2, 0) | x.names(2, 1) | x.names(2, 2) | x.names(2, 3));
         Check.same("nothing is said of the next", 0, x.say(0, 2, 0));
         Check.same("nothing is said of the next", 0, x.say(2, 1, 0));
@@ -221,6 +224,11 @@ public final class PromiseTest {
         y.say(0, 1, 1);
         y.dropPiece();
         Check.same("what was said of others stays", "3", groups(y));
+        y.dropPiece();
+        Check.same("groups without it", "1", groups(y));
+        Check.same("parcels without it", "1", parcels(y));
+        y.addPiece(5, 0, 0, 0);
+        Check.same("groups with another one", "1 2", groups(y));
     }
 
     private static void promise7PieceCount() {
@@ -496,6 +504,9 @@ public final class PromiseTest {
         Check.same("group of a piece", 1, x.groupOf(1));
         Check.same("group of a piece", 2, x.groupOf(2));
         Check.same("group of a piece", 1, x.groupOf(3));
+        x.say(0, 1, 1);
+        Check.same("group of a piece, a word later", 0, x.groupOf(3));
+        x.say(0, 1, 0);
         for (int group : new int[] {-1, 3, 4, 14, 32, Integer.MAX_VALUE, Integer.MIN_VALUE}) {
             Check.isThrown("group that is none", INDEX, x, () -> x.group(group));
         }
@@ -644,6 +655,7 @@ public final class PromiseTest {
         Check.same("parcel of a piece", 0, x.parcelOf(4));
         Check.same("parcel of a piece", 1, x.parcelOf(1));
         x.setName(3, true, 0);
+        Check.same("parcel of a piece, a name later", 4, x.parcelOf(3));
         Check.same("no need of what the code defines", "1 2 4 16 8", parcels(x));
         for (int parcel : new int[] {-1, 5, 14, 32, Integer.MAX_VALUE, Integer.MIN_VALUE}) {
             Check.isThrown("parcel that is none", INDEX, x, () -> x.parcel(parcel));
@@ -756,6 +768,12 @@ public final class PromiseTest {
         Check.same("one more in each", 6, x.breakage());
         x.say(0, 1, 1);
         Check.same("parcels: 2 broken, then 1", 3, x.breakage());
+        ChangeUntangler y = unrelated(3);
+        need(y, 0, 1);
+        y.setName(8, false, 3);
+        y.setNames(0, DEFINES, 1 << 8);
+        Check.same("parcels", "2 1 4", parcels(y));
+        Check.same("only what has been applied counts", 1, y.breakage());
     }
 
     private static void promise29And30Best() {
@@ -781,6 +799,8 @@ public final class PromiseTest {
         for (int place : new int[] {-1, 4, 9, 32, Integer.MAX_VALUE, Integer.MIN_VALUE}) {
             Check.isThrown("no place", INDEX, y, () -> y.best(place));
         }
+        Check.same("only what has been applied counts", "120", bestOrder(firstPieceLast()));
+        Check.same("only what has been applied counts", 1, firstPieceLast().leastBreakage());
         ChangeUntangler z = unrelated(3);
         z.setName(1, true, 0);
         z.setName(0, false, 0);
@@ -797,6 +817,14 @@ public final class PromiseTest {
         Check.same("breakage", 1, z.breakage());
     }
 
+    /** Piece 0 defines once more what the code defines. */
+    private static ChangeUntangler firstPieceLast() {
+        ChangeUntangler x = unrelated(3);
+        x.setName(3, true, 0);
+        x.setNames(0, DEFINES, 1 << 3);
+        return x;
+    }
+
     private static void promise29And30TooManyParcels() {
         ChangeUntangler x = unrelated(10);
         Check.isThrown("leastBreakage of ten", STATE, x, () -> x.leastBreakage());
@@ -811,6 +839,10 @@ public final class PromiseTest {
         Check.same("best of nine", "801234567", bestOrder(x));
         Check.isThrown("no tenth place", INDEX, x, () -> x.best(9));
         x.say(0, 9, 0);
+        Check.isThrown("best of ten", STATE, () -> x.best(0));
+        x.dropPiece();
+        Check.same("least of nine without asking for parcels", 0, x.leastBreakage());
+        x.addPiece(9, 9, 9, 9);
         Check.isThrown("leastBreakage of ten", STATE, x, () -> x.leastBreakage());
     }
 
