@@ -98,7 +98,7 @@ public final class FaceTest {
         for (Method method : face.getDeclaredMethods()) {
             if (!Modifier.isPublic(method.getModifiers())) {
                 Check.same(method.getName() + " is private", true, Modifier.isPrivate(method.getModifiers()));
-                Check.same(method.getName() + " bears a name of the face", false, names.contains(method.getName()));
+                isNotOfTheFace(method, names);
             }
         }
         return names;
@@ -115,10 +115,15 @@ public final class FaceTest {
 
     private static void inside(Class<?> inside, Set<String> names) {
         int modifiers = inside.getModifiers();
-        Check.same(inside + " is static", true, Modifier.isStatic(modifiers));
         Check.same(inside + " is seen", false, Modifier.isPublic(modifiers) || Modifier.isProtected(modifiers));
         for (Method method : inside.getDeclaredMethods()) {
-            Check.same(method.getName() + " bears a name of the face", false, names.contains(method.getName()));
+            if (Modifier.isPrivate(method.getModifiers())) {
+                isNotOfTheFace(method, names);
+            }
         }
+    }
+
+    private static void isNotOfTheFace(Method method, Set<String> names) {
+        Check.same(method.getName() + " bears a name of the face", false, names.contains(method.getName()));
     }
 }

@@ -4,10 +4,7 @@ import java.nio.file.Path;
 import java.util.regex.Matcher;
 import java.util.regex.Pattern;
 
-/**
- * The rules of LANGUAGE.md that can be seen by going through the text of the class, line by line. Where the class
- * needs nothing of what a rule leaves (try, texts of its own, most of the library), none of it is let through.
- */
+/** The rules of LANGUAGE.md that can be seen by going through the text of the class, line by line. */
 public final class LanguageTest {
     private static final String SOURCE = "src/main/java/ChangeUntangler.java";
     private static final int MOST_LINES_OF_A_METHOD = 60;
@@ -17,20 +14,23 @@ public final class LanguageTest {
 
     /** The rule's number, and what may not stand in the code. */
     private static final String[][] FORBIDDEN = {
-        {"1", "\\b(package|import)\\b"},
-        {"1", "\\bprotected\\b"},
-        {"2", "->|::"},
-        {"3", "\\[\\]\\[\\]\\[\\]|\\bObject\\b|\\bvar\\b"},
+        {"1", "\\bpackage\\b|\\bprotected\\b"},
+        {"2", "::|^(?!.*\\b(case|default)\\b).*->"},
+        {"3", "\\[\\]\\[\\]\\[\\]|\\bObject\\b"},
+        {"4", "\\bimport\\b(?! java\\.util\\.(ArrayList|List|Arrays|Iterator|NoSuchElementException);)"},
         {"4", "\\bSystem\\.(?!arraycopy\\()"},
-        {"4", "\\b(Integer|Long)\\.(?!(compare|max|min|bitCount)\\()"},
-        {"4", "\\bMath\\.(?!(max|min|abs|floorDiv|floorMod)\\()"},
+        {"4", "\\b(Integer|Long|Math)\\.\\w+Exact\\b"},
+        {"4", "\\bMath\\.(random|sqrt|cbrt|pow|exp|log\\w*|floor|ceil|round|rint|sin|cos|tan|hypot)\\("},
         {"5", "\\bstatic\\s*\\{"},
         {"5", "\\bstatic\\s+(?!final\\b)\\w+(\\[\\])*\\s+\\w+\\s*[=;]"},
-        {"6", "\\bthrow\\b(?! new (IllegalState|IllegalArgument|IndexOutOfBounds)Exception\\(\"\"\\);)"},
-        {"6", "\\b(try|catch|finally|synchronized|assert)\\b"},
-        {"6", "\\.(equals|hashCode|toString)\\("},
+        {"6", "\\bthrow\\b(?! new (IllegalState|IllegalArgument|IndexOutOfBounds|Arithmetic|UnsupportedOperation"
+            + "|NoSuchElement|Runtime)Exception\\((\"\")?\\);)"},
+        {"6", "\\b(finally|synchronized|assert)\\b|\\btry\\s*\\(|\\.getMessage\\("},
+        {"6", "\\bcatch\\b.*\\b(Throwable|Error|Exception|(NullPointer|ClassCast|ArrayStore)Exception)\\b"},
+        {"6", "\\bcatch\\b.*\\b(ArrayIndexOutOfBounds|NegativeArraySize)Exception\\b"},
+        {"6", "\\bboolean equals\\(|\\bhashCode\\(|\\bString toString\\("},
         {"10", "\\+ *\"|\" *\\+"},
-        {"13", "\\b(Random|Thread|Runtime|ProcessHandle)\\b"},
+        {"13", "\\b(Random|Thread|Runtime|ProcessHandle)\\b|\\bjava\\.(io|net|nio|time)\\b"},
     };
 
     public static void main(String[] args) throws IOException {

@@ -4,6 +4,7 @@ import java.util.function.DoubleSupplier;
 /** Runs of calls by chance (the same at each start), answered by the class and by the model of the document. */
 public final class ModelTest {
     private static final int RUNS = 250;
+    /** With the calls that fill an object and ask for its groups they stay below the 512 that it is used for. */
     private static final int CALLS = 120;
     private static final int KINDS_OF_CALL = 32;
 
@@ -67,7 +68,7 @@ public final class ModelTest {
     }
 
     private int piece() {
-        return number(Math.max(0, x.pieceCount() - 1));
+        return number(Math.max(0, model.pieces.size() - 1));
     }
 
     private int someNames() {
@@ -110,7 +111,7 @@ public final class ModelTest {
         int b = piece();
         switch (kind) {
             case 0: case 1: {
-                if (x.pieceCount() < mostPieces || random.nextInt(10) == 0) {
+                if (model.pieces.size() < mostPieces || random.nextInt(10) == 0) {
                     addPiece();
                 }
                 break;
@@ -228,7 +229,7 @@ public final class ModelTest {
                 both("lines(" + k + ")", () -> model.lines(k), () -> x.lines(k));
                 break;
             case 27: {
-                int set = number((1 << x.pieceCount()) - 1);
+                int set = number((1 << model.pieces.size()) - 1);
                 both("broken(" + set + ")", () -> model.broken(set), () -> x.broken(set));
                 break;
             }

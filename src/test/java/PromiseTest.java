@@ -51,49 +51,6 @@ public final class PromiseTest {
         Check.end();
     }
 
-    /** Pieces far from each other, in files of their own as long as there are some. */
-    private static ChangeUntangler apart(int pieces) {
-        ChangeUntangler x = new ChangeUntangler();
-        for (int k = 0; k < pieces; k++) {
-            x.addPiece(k % 10, k * 500, k, 2 * k);
-        }
-        return x;
-    }
-
-    /** The same, but no evidence puts them together: needs alone are left to look at. */
-    private static ChangeUntangler unrelated(int pieces) {
-        ChangeUntangler x = apart(pieces);
-        for (int kind = 0; kind < 4; kind++) {
-            x.setWeight(kind, 0);
-        }
-        return x;
-    }
-
-    private static String sets(ChangeUntangler x, boolean ofParcels) {
-        StringBuilder text = new StringBuilder();
-        int count = ofParcels ? x.parcelCount() : x.groupCount();
-        for (int k = 0; k < count; k++) {
-            text.append(k == 0 ? "" : " ").append(ofParcels ? x.parcel(k) : x.group(k));
-        }
-        return text.toString();
-    }
-
-    private static String groups(ChangeUntangler x) {
-        return sets(x, false);
-    }
-
-    private static String parcels(ChangeUntangler x) {
-        return sets(x, true);
-    }
-
-    private static String bestOrder(ChangeUntangler x) {
-        StringBuilder text = new StringBuilder();
-        for (int place = 0; place < x.parcelCount(); place++) {
-            text.append(x.best(place));
-        }
-        return text.toString();
-    }
-
     private static void promise1NewObject() {
         ChangeUntangler x = new ChangeUntangler();
         Check.same("pieces at first", 0, x.pieceCount());
@@ -109,7 +66,7 @@ public final class PromiseTest {
         for (int name = 0; name < 16; name++) {
             Check.same("name at first is known so", false, x.setName(name, false, 0));
         }
-        ChangeUntangler y = apart(4);
+        ChangeUntangler y = Made.apart(4);
         Check.same("objects are apart", 0, x.pieceCount());
         Check.same("objects are apart", 4, y.pieceCount());
     }
@@ -137,7 +94,7 @@ public final class PromiseTest {
     }
 
     private static void promise3SetNames() {
-        ChangeUntangler x = apart(3);
+        ChangeUntangler x = Made.apart(3);
         for (int what = 0; what < 4; what++) {
             Check.same("set before", 0, x.setNames(1, what, 65535 - what));
             Check.same("set before", 65535 - what, x.setNames(1, what, 1 << what));
@@ -159,7 +116,7 @@ public final class PromiseTest {
     }
 
     private static void promise4Names() {
-        ChangeUntangler x = apart(3);
+        ChangeUntangler x = Made.apart(3);
         x.setNames(2, DROPS, 65535);
         Check.same("names", 65535, x.names(2, DROPS));
         Check.same("names", 0, x.names(2, USES));
@@ -171,7 +128,7 @@ public final class PromiseTest {
     }
 
     private static void promise5SetName() {
-        ChangeUntangler x = apart(1);
+        ChangeUntangler x = Made.apart(1);
         Check.same("the same again", false, x.setName(0, false, 0));
         Check.same("defined", true, x.setName(0, true, 0));
         Check.same("the same again", false, x.setName(0, true, 0));
@@ -204,11 +161,11 @@ public final class PromiseTest {
         Check.same("pieces left", 2, x.dropPiece());
         Check.isThrown("the piece is gone", INDEX, x, () -> x.names(2, 0));
         Check.same("what it defined is gone", 0, x.broken(3));
-        Check.same("groups left", "1 2", groups(x));
+        Check.same("groups left", "1 2", Made.groups(x));
         Check.same("what joined two through it is gone", 0, x.say(0, 1, 1));
         x.say(0, 1, 0);
         x.addPiece(3, 0, 1, 1);
-        Check.same("nothing is said of the next", "1 2 4", groups(x));
+        Check.same("nothing is said of the next", "1 2 4", Made.groups(x));
         Check.same("nothing is said of the next", 0, x.say(2, 0, 2));
         x.say(2, 0, 0);
         Check.same("the next has no names", 0, x.names(2, 0) | x.names(2, 1) | x.names(2, 2) | x.names(2, 3));
@@ -220,15 +177,15 @@ public final class PromiseTest {
         Check.same("pieces left", 0, x.dropPiece());
         Check.isThrown("dropPiece of none", STATE, x, () -> x.dropPiece());
 
-        ChangeUntangler y = apart(3);
+        ChangeUntangler y = Made.apart(3);
         y.say(0, 1, 1);
         y.dropPiece();
-        Check.same("what was said of others stays", "3", groups(y));
+        Check.same("what was said of others stays", "3", Made.groups(y));
         y.dropPiece();
-        Check.same("groups without it", "1", groups(y));
-        Check.same("parcels without it", "1", parcels(y));
+        Check.same("groups without it", "1", Made.groups(y));
+        Check.same("parcels without it", "1", Made.parcels(y));
         y.addPiece(5, 0, 0, 0);
-        Check.same("groups with another one", "1 2", groups(y));
+        Check.same("groups with another one", "1 2", Made.groups(y));
     }
 
     private static void promise7PieceCount() {
@@ -298,7 +255,7 @@ public final class PromiseTest {
     }
 
     private static void promise10PointsOfNames() {
-        ChangeUntangler x = apart(3);
+        ChangeUntangler x = Made.apart(3);
         x.setNames(0, DEFINES, 0b0111);
         x.setNames(1, USES, 0b1110);
         Check.same("FLOW for each name", 10, x.points(0, 1, 1));
@@ -318,7 +275,7 @@ public final class PromiseTest {
         x.setName(0, true, 9);
         Check.same("FLOW of what the code defines", 20, x.points(0, 1, 1));
 
-        ChangeUntangler y = apart(2);
+        ChangeUntangler y = Made.apart(2);
         y.setNames(0, DEFINES, 1);
         y.setNames(0, USES, 1);
         y.setNames(1, DEFINES, 1);
@@ -330,7 +287,7 @@ public final class PromiseTest {
     }
 
     private static void promise10Alike() {
-        ChangeUntangler x = apart(2);
+        ChangeUntangler x = Made.apart(2);
         Check.same("ALIKE without names", 0, x.points(0, 1, 3));
         x.setNames(0, DEFINES, 0b000011);
         Check.same("ALIKE with nothing in common", 0, x.points(0, 1, 3));
@@ -350,7 +307,7 @@ public final class PromiseTest {
     }
 
     private static void promise11Affinity() {
-        ChangeUntangler x = apart(3);
+        ChangeUntangler x = Made.apart(3);
         Check.same("affinity of unrelated ones", 0, x.affinity(0, 1));
         x.addPiece(0, 15, 0, 0);
         x.setNames(0, DEFINES, 0b01);
@@ -370,9 +327,9 @@ public final class PromiseTest {
     }
 
     private static void promise12Closest() {
-        ChangeUntangler x = apart(1);
+        ChangeUntangler x = Made.apart(1);
         Check.same("closest of a piece alone", -1, x.closest(0));
-        ChangeUntangler y = apart(3);
+        ChangeUntangler y = Made.apart(3);
         Check.same("closest of unrelated ones", 1, y.closest(0));
         Check.same("closest of unrelated ones", 0, y.closest(1));
         y.setNames(2, USES, 1);
@@ -388,27 +345,27 @@ public final class PromiseTest {
     }
 
     private static void promise13SetThreshold() {
-        ChangeUntangler x = apart(2);
+        ChangeUntangler x = Made.apart(2);
         x.setNames(0, DEFINES, 3);
         x.setNames(1, USES, 3);
         Check.same("affinity", 20, x.affinity(0, 1));
         Check.same("threshold before", 12, x.setThreshold(20));
-        Check.same("linkage that is the threshold", "3", groups(x));
+        Check.same("linkage that is the threshold", "3", Made.groups(x));
         Check.same("threshold before", 20, x.setThreshold(21));
-        Check.same("linkage below the threshold", "1 2", groups(x));
+        Check.same("linkage below the threshold", "1 2", Made.groups(x));
         Check.same("threshold before", 21, x.setThreshold(999));
         Check.same("threshold before", 999, x.setThreshold(1));
-        Check.same("groups again", "3", groups(x));
+        Check.same("groups again", "3", Made.groups(x));
         for (int threshold : new int[] {0, -1, 1000, Integer.MAX_VALUE, Integer.MIN_VALUE}) {
             Check.isThrown("setThreshold of none", ARGUMENT, x, () -> x.setThreshold(threshold));
         }
-        ChangeUntangler y = apart(2);
+        ChangeUntangler y = Made.apart(2);
         y.setThreshold(1);
-        Check.same("no affinity is below the least threshold", "1 2", groups(y));
+        Check.same("no affinity is below the least threshold", "1 2", Made.groups(y));
     }
 
     private static void promise14SetManner() {
-        ChangeUntangler x = apart(2);
+        ChangeUntangler x = Made.apart(2);
         Check.same("manner before", 1, x.setManner(0));
         Check.same("manner before", 0, x.setManner(2));
         Check.same("manner before", 2, x.setManner(1));
@@ -442,22 +399,22 @@ public final class PromiseTest {
         for (int manner = 0; manner < 3; manner++) {
             x.setManner(manner);
             x.setThreshold(linkages[manner] + 1);
-            Check.same("groups above it", "3 4", groups(x));
+            Check.same("groups above it", "3 4", Made.groups(x));
             x.setThreshold(linkages[manner]);
-            Check.same("groups at it", "7", groups(x));
+            Check.same("groups at it", "7", Made.groups(x));
         }
     }
 
     private static void promise15Say() {
-        ChangeUntangler x = apart(3);
+        ChangeUntangler x = Made.apart(3);
         Check.same("said before", 0, x.say(0, 1, 1));
-        Check.same("groups", "3 4", groups(x));
+        Check.same("groups", "3 4", Made.groups(x));
         Check.same("said before, from the other side", 1, x.say(1, 0, 1));
         Check.same("said before", 1, x.say(1, 0, 2));
-        Check.same("groups", "1 2 4", groups(x));
+        Check.same("groups", "1 2 4", Made.groups(x));
         Check.same("said before", 2, x.say(0, 1, 1));
         Check.same("said before", 1, x.say(0, 1, 0));
-        Check.same("groups", "1 2 4", groups(x));
+        Check.same("groups", "1 2 4", Made.groups(x));
         Check.same("said before", 0, x.say(0, 1, 0));
         for (int piece : NOT_PIECES) {
             Check.isThrown("say of no piece", INDEX, x, () -> x.say(piece, 0, 1));
@@ -473,11 +430,11 @@ public final class PromiseTest {
     }
 
     private static void promise15SayByWayOfOthers() {
-        ChangeUntangler x = apart(14);
+        ChangeUntangler x = Made.apart(14);
         for (int piece = 12; piece >= 0; piece--) {
             x.say(piece + 1, piece, 1);
         }
-        Check.same("a chain is one group", "16383", groups(x));
+        Check.same("a chain is one group", "16383", Made.groups(x));
         Check.isThrown("the ends of a chain", STATE, x, () -> x.say(0, 13, 2));
         Check.isThrown("the ends of a chain", STATE, x, () -> x.say(13, 0, 2));
         Check.isThrown("a wrong one comes first", ARGUMENT, x, () -> x.say(0, 13, 3));
@@ -489,11 +446,11 @@ public final class PromiseTest {
         Check.same("what was said stays", 2, x.say(6, 7, 0));
         Check.isThrown("the link closed again", STATE, x, () -> x.say(7, 6, 1));
         Check.same("what was said stays", 0, x.say(6, 7, 2));
-        Check.same("groups", "127 16256", groups(x));
+        Check.same("groups", "127 16256", Made.groups(x));
     }
 
     private static void promise16To18Groups() {
-        ChangeUntangler x = apart(4);
+        ChangeUntangler x = Made.apart(4);
         Check.same("groups", 4, x.groupCount());
         x.say(1, 3, 1);
         Check.same("groups", 3, x.groupCount());
@@ -521,13 +478,13 @@ public final class PromiseTest {
         y.setWeight(0, 12);
         Check.same("groups, a weight later", 1, y.groupCount());
         y.addPiece(0, 5, 0, 0);
-        Check.same("groups, a piece later", "7", groups(y));
+        Check.same("groups, a piece later", "7", Made.groups(y));
         y.setSpan(4);
-        Check.same("groups, a span later", "3 4", groups(y));
+        Check.same("groups, a span later", "3 4", Made.groups(y));
         y.setNames(2, DEFINES, 1);
         y.setNames(1, USES, 1);
         y.setThreshold(7);
-        Check.same("groups, names later", "1 6", groups(y));
+        Check.same("groups, names later", "1 6", Made.groups(y));
     }
 
     private static void promise16ForbiddenGroups() {
@@ -536,16 +493,16 @@ public final class PromiseTest {
             x.addPiece(0, k, 0, 0);
         }
         x.setWeight(0, 20);
-        Check.same("all are near", "15", groups(x));
+        Check.same("all are near", "15", Made.groups(x));
         x.say(3, 0, 2);
-        Check.same("one that must not be with one of a group", "7 8", groups(x));
+        Check.same("one that must not be with one of a group", "7 8", Made.groups(x));
         x.say(1, 2, 2);
-        Check.same("two pairs that must not", "3 12", groups(x));
+        Check.same("two pairs that must not", "3 12", Made.groups(x));
         x.say(0, 1, 2);
-        Check.same("three pairs that must not", "5 10", groups(x));
+        Check.same("three pairs that must not", "5 10", Made.groups(x));
         x.setThreshold(21);
         x.say(0, 2, 1);
-        Check.same("MUST needs no linkage", "5 2 8", groups(x));
+        Check.same("MUST needs no linkage", "5 2 8", Made.groups(x));
     }
 
     private static void promise16SeveralPairs() {
@@ -555,19 +512,19 @@ public final class PromiseTest {
         }
         x.setThreshold(6);
         x.setManner(2);
-        Check.same("of several the first pair", "3 12", groups(x));
+        Check.same("of several the first pair", "3 12", Made.groups(x));
         x.say(0, 1, 2);
-        Check.same("of several the first pair", "1 6 8", groups(x));
+        Check.same("of several the first pair", "1 6 8", Made.groups(x));
         ChangeUntangler y = new ChangeUntangler();
         y.addPiece(0, 20, 0, 0);
         y.addPiece(0, 0, 0, 0);
         y.addPiece(0, 40, 0, 0);
         y.setThreshold(6);
         y.setManner(2);
-        Check.same("then the first second one", "3 4", groups(y));
+        Check.same("then the first second one", "3 4", Made.groups(y));
         y.setNames(0, DEFINES, 1);
         y.setNames(2, USES, 1);
-        Check.same("the greatest comes first", "5 2", groups(y));
+        Check.same("the greatest comes first", "5 2", Made.groups(y));
     }
 
     private static void promise19Linkage() {
@@ -594,7 +551,7 @@ public final class PromiseTest {
         x.setManner(0);
         Check.same("joined", 15, x.lastLinkage());
         x.say(0, 1, 0);
-        Check.same("joined last", "5 2", groups(x));
+        Check.same("joined last", "5 2", Made.groups(x));
         Check.same("joined last", 15, x.lastLinkage());
         x.setThreshold(6);
         Check.same("joined last", 6, x.lastLinkage());
@@ -604,7 +561,7 @@ public final class PromiseTest {
     }
 
     private static void promise21Needs() {
-        ChangeUntangler x = unrelated(3);
+        ChangeUntangler x = Made.unrelated(3);
         Check.same("nothing to need", false, x.needs(0, 1));
         x.setNames(0, USES, 1);
         x.setNames(1, DEFINES, 1);
@@ -635,28 +592,22 @@ public final class PromiseTest {
         Check.isThrown("needs of the same piece", ARGUMENT, x, () -> x.needs(0, 0));
     }
 
-    /** A piece uses the name that has the other's number, which the other defines. */
-    private static void need(ChangeUntangler x, int piece, int other) {
-        x.setNames(piece, USES, x.names(piece, USES) | 1 << other);
-        x.setNames(other, DEFINES, 1 << other);
-    }
-
     private static void promise22To24Parcels() {
-        ChangeUntangler x = unrelated(5);
-        Check.same("parcels without needs", "1 2 4 8 16", parcels(x));
-        need(x, 0, 3);
-        Check.same("what is needed comes before", "2 4 8 1 16", parcels(x));
+        ChangeUntangler x = Made.unrelated(5);
+        Check.same("parcels without needs", "1 2 4 8 16", Made.parcels(x));
+        Made.need(x, 0, 3);
+        Check.same("what is needed comes before", "2 4 8 1 16", Made.parcels(x));
         Check.same("parcel of a piece", 3, x.parcelOf(0));
         Check.same("parcel of a piece", 2, x.parcelOf(3));
-        need(x, 3, 4);
-        need(x, 4, 0);
-        Check.same("a circle by way of others", "25 2 4", parcels(x));
+        Made.need(x, 3, 4);
+        Made.need(x, 4, 0);
+        Check.same("a circle by way of others", "25 2 4", Made.parcels(x));
         Check.same("parcels", 3, x.parcelCount());
         Check.same("parcel of a piece", 0, x.parcelOf(4));
         Check.same("parcel of a piece", 1, x.parcelOf(1));
         x.setName(3, true, 0);
         Check.same("parcel of a piece, a name later", 4, x.parcelOf(3));
-        Check.same("no need of what the code defines", "1 2 4 16 8", parcels(x));
+        Check.same("no need of what the code defines", "1 2 4 16 8", Made.parcels(x));
         for (int parcel : new int[] {-1, 5, 14, 32, Integer.MAX_VALUE, Integer.MIN_VALUE}) {
             Check.isThrown("parcel that is none", INDEX, x, () -> x.parcel(parcel));
         }
@@ -667,39 +618,39 @@ public final class PromiseTest {
     }
 
     private static void promise24OrderOfParcels() {
-        ChangeUntangler x = unrelated(6);
-        need(x, 1, 5);
-        need(x, 0, 1);
+        ChangeUntangler x = Made.unrelated(6);
+        Made.need(x, 1, 5);
+        Made.need(x, 0, 1);
         x.say(0, 2, 1);
-        Check.same("needs of any piece of a group", "8 16 32 2 5", parcels(x));
-        need(x, 5, 2);
-        Check.same("groups that need each other", "39 8 16", parcels(x));
+        Check.same("needs of any piece of a group", "8 16 32 2 5", Made.parcels(x));
+        Made.need(x, 5, 2);
+        Check.same("groups that need each other", "39 8 16", Made.parcels(x));
         x.say(3, 4, 1);
-        Check.same("groups that need nothing", "39 24", parcels(x));
-        need(x, 0, 4);
-        Check.same("a circle that needs another group", "24 39", parcels(x));
-        ChangeUntangler y = unrelated(14);
+        Check.same("groups that need nothing", "39 24", Made.parcels(x));
+        Made.need(x, 0, 4);
+        Check.same("a circle that needs another group", "24 39", Made.parcels(x));
+        ChangeUntangler y = Made.unrelated(14);
         for (int piece = 0; piece < 13; piece++) {
-            need(y, piece, piece + 1);
+            Made.need(y, piece, piece + 1);
         }
-        Check.same("a long chain", "8192 4096 2048 1024 512 256 128 64 32 16 8 4 2 1", parcels(y));
-        need(y, 13, 0);
-        Check.same("a long circle", "16383", parcels(y));
+        Check.same("a long chain", "8192 4096 2048 1024 512 256 128 64 32 16 8 4 2 1", Made.parcels(y));
+        Made.need(y, 13, 0);
+        Check.same("a long circle", "16383", Made.parcels(y));
     }
 
     private static void promise25Knots() {
-        ChangeUntangler x = unrelated(6);
+        ChangeUntangler x = Made.unrelated(6);
         Check.same("knots without needs", 0, x.knots());
-        need(x, 0, 5);
-        need(x, 5, 0);
+        Made.need(x, 0, 5);
+        Made.need(x, 5, 0);
         Check.same("a knot", 1, x.knots());
-        need(x, 1, 2);
-        need(x, 2, 3);
-        need(x, 3, 1);
+        Made.need(x, 1, 2);
+        Made.need(x, 2, 3);
+        Made.need(x, 3, 1);
         Check.same("two knots", 2, x.knots());
         x.say(0, 5, 1);
         Check.same("a group is no knot", 1, x.knots());
-        Check.same("parcels", "33 14 16", parcels(x));
+        Check.same("parcels", "33 14 16", Made.parcels(x));
         Check.same("a new object", 0, new ChangeUntangler().knots());
     }
 
@@ -717,7 +668,7 @@ public final class PromiseTest {
     }
 
     private static void promise27Broken() {
-        ChangeUntangler x = unrelated(4);
+        ChangeUntangler x = Made.unrelated(4);
         x.setNames(0, DEFINES, 1);
         x.setNames(1, DEFINES, 1);
         x.setNames(2, REMOVES, 1);
@@ -748,7 +699,7 @@ public final class PromiseTest {
         for (int set : new int[] {16, -1, 1 << 14, 1 << 31, 31, Integer.MAX_VALUE}) {
             Check.isThrown("broken by no pieces", ARGUMENT, x, () -> x.broken(set));
         }
-        ChangeUntangler y = apart(14);
+        ChangeUntangler y = Made.apart(14);
         Check.same("all pieces", 0, y.broken(16383));
         Check.isThrown("broken by no pieces", ARGUMENT, y, () -> y.broken(16384));
         Check.isThrown("broken by no pieces", ARGUMENT, () -> new ChangeUntangler().broken(1));
@@ -757,7 +708,7 @@ public final class PromiseTest {
 
     private static void promise28Breakage() {
         Check.same("a new object", 0, new ChangeUntangler().breakage());
-        ChangeUntangler x = unrelated(3);
+        ChangeUntangler x = Made.unrelated(3);
         x.setName(0, true, 1);
         x.setName(1, false, 1);
         x.setNames(0, REMOVES, 1);
@@ -768,11 +719,11 @@ public final class PromiseTest {
         Check.same("one more in each", 6, x.breakage());
         x.say(0, 1, 1);
         Check.same("parcels: 2 broken, then 1", 3, x.breakage());
-        ChangeUntangler y = unrelated(3);
-        need(y, 0, 1);
+        ChangeUntangler y = Made.unrelated(3);
+        Made.need(y, 0, 1);
         y.setName(8, false, 3);
         y.setNames(0, DEFINES, 1 << 8);
-        Check.same("parcels", "2 1 4", parcels(y));
+        Check.same("parcels", "2 1 4", Made.parcels(y));
         Check.same("only what has been applied counts", 1, y.breakage());
     }
 
@@ -780,28 +731,28 @@ public final class PromiseTest {
         ChangeUntangler x = new ChangeUntangler();
         Check.same("least of none", 0, x.leastBreakage());
         Check.isThrown("best of none", INDEX, x, () -> x.best(0));
-        ChangeUntangler y = unrelated(4);
-        Check.same("of several orders the first", "0123", bestOrder(y));
+        ChangeUntangler y = Made.unrelated(4);
+        Check.same("of several orders the first", "0123", Made.bestOrder(y));
         Check.same("least", 0, y.leastBreakage());
         y.setName(5, false, 2);
         y.setNames(3, DEFINES, 1 << 5);
         Check.same("breakage", 3, y.breakage());
         Check.same("least", 0, y.leastBreakage());
-        Check.same("the last one first", "3012", bestOrder(y));
+        Check.same("the last one first", "3012", Made.bestOrder(y));
         y.setName(6, true, 1);
         y.setNames(3, REMOVES, 1 << 6);
         Check.same("least", 4, y.leastBreakage());
-        Check.same("as good one way as the other", "0123", bestOrder(y));
+        Check.same("as good one way as the other", "0123", Made.bestOrder(y));
         y.setNames(1, DROPS, 1 << 6);
-        Check.same("parcels", "1 2 4 8", parcels(y));
+        Check.same("parcels", "1 2 4 8", Made.parcels(y));
         Check.same("least", 1, y.leastBreakage());
-        Check.same("one ahead of it", "1302", bestOrder(y));
+        Check.same("one ahead of it", "1302", Made.bestOrder(y));
         for (int place : new int[] {-1, 4, 9, 32, Integer.MAX_VALUE, Integer.MIN_VALUE}) {
             Check.isThrown("no place", INDEX, y, () -> y.best(place));
         }
-        Check.same("only what has been applied counts", "120", bestOrder(firstPieceLast()));
+        Check.same("only what has been applied counts", "120", Made.bestOrder(firstPieceLast()));
         Check.same("only what has been applied counts", 1, firstPieceLast().leastBreakage());
-        ChangeUntangler z = unrelated(3);
+        ChangeUntangler z = Made.unrelated(3);
         z.setName(1, true, 0);
         z.setName(0, false, 0);
         z.setNames(0, REMOVES, 2);
@@ -809,24 +760,24 @@ public final class PromiseTest {
         z.setNames(1, DEFINES, 2);
         z.setNames(1, USES, 4);
         z.setNames(2, DEFINES, 4);
-        Check.same("parcels", "1 4 2", parcels(z));
-        Check.same("best is told by parcels", "012", bestOrder(z));
+        Check.same("parcels", "1 4 2", Made.parcels(z));
+        Check.same("best is told by parcels", "012", Made.bestOrder(z));
         z.setName(2, true, 0);
-        Check.same("parcels", "1 2 4", parcels(z));
+        Check.same("parcels", "1 2 4", Made.parcels(z));
         Check.same("the least breakage is not none", 1, z.leastBreakage());
         Check.same("breakage", 1, z.breakage());
     }
 
     /** Piece 0 defines once more what the code defines. */
     private static ChangeUntangler firstPieceLast() {
-        ChangeUntangler x = unrelated(3);
+        ChangeUntangler x = Made.unrelated(3);
         x.setName(3, true, 0);
         x.setNames(0, DEFINES, 1 << 3);
         return x;
     }
 
     private static void promise29And30TooManyParcels() {
-        ChangeUntangler x = unrelated(10);
+        ChangeUntangler x = Made.unrelated(10);
         Check.isThrown("leastBreakage of ten", STATE, x, () -> x.leastBreakage());
         Check.isThrown("best of ten", STATE, x, () -> x.best(0));
         Check.isThrown("too many comes first", STATE, x, () -> x.best(10));
@@ -836,7 +787,7 @@ public final class PromiseTest {
         x.setName(15, false, 1);
         x.setNames(8, DEFINES, 1 << 15);
         Check.same("least of nine", 0, x.leastBreakage());
-        Check.same("best of nine", "801234567", bestOrder(x));
+        Check.same("best of nine", "801234567", Made.bestOrder(x));
         Check.isThrown("no tenth place", INDEX, x, () -> x.best(9));
         x.say(0, 9, 0);
         Check.isThrown("best of ten", STATE, () -> x.best(0));
@@ -847,7 +798,7 @@ public final class PromiseTest {
     }
 
     private static void promise31SetPurpose() {
-        ChangeUntangler x = apart(3);
+        ChangeUntangler x = Made.apart(3);
         Check.same("purpose before", 0, x.setPurpose(2, 9));
         Check.same("purpose before", 9, x.setPurpose(2, 1));
         Check.same("purpose of another", 0, x.setPurpose(1, 0));
@@ -862,8 +813,8 @@ public final class PromiseTest {
 
     private static void promise32Agreement() {
         Check.same("no pieces", 1.0, new ChangeUntangler().agreement());
-        Check.same("one piece", 1.0, apart(1).agreement());
-        ChangeUntangler x = apart(3);
+        Check.same("one piece", 1.0, Made.apart(1).agreement());
+        ChangeUntangler x = Made.apart(3);
         Check.same("apart, of one purpose", 0.0, x.agreement());
         x.setPurpose(0, 1);
         Check.same("apart, two of another purpose", 2.0 / 3.0, x.agreement());
@@ -911,7 +862,7 @@ public final class PromiseTest {
     }
 
     private static void promise33DigestOfEach() {
-        ChangeUntangler x = unrelated(3);
+        ChangeUntangler x = Made.unrelated(3);
         long before = x.digest();
         x.setPurpose(1, 3);
         Check.same("a purpose counts", true, before != x.digest());

@@ -2,42 +2,46 @@ import com.sun.management.ThreadMXBean;
 import java.lang.management.ManagementFactory;
 
 /**
- * All calls of one run live in one room of 600,000 objects and 7.3 million fields and elements: a run of 512 calls
- * must leave nearly nothing there, and an object must be small.
+ * All calls of one run live in one room of 600,000 objects and 7.3 million fields and elements: a run that makes an
+ * object and uses it for 512 calls, or makes 512 objects, must fit in.
  */
 public final class RoomTest {
     private static final int CALLS = 512;
-    private static final int OBJECTS = 1000;
-    private static final long MOST_BYTES_OF_AN_OBJECT = 16_000;
-    private static final long MOST_BYTES_OF_A_RUN = 200_000;
+    /** Taken as if a field had four bytes, and an object nothing else. */
+    private static final long MOST_BYTES_OF_A_RUN = 4 * 7_300_000;
 
     private static final ThreadMXBean THREADS = (ThreadMXBean) ManagementFactory.getThreadMXBean();
     private static ChangeUntangler kept;
     private static long sum;
 
     public static void main(String[] args) {
-        make();
-        long before = THREADS.getCurrentThreadAllocatedBytes();
-        for (int k = 0; k < OBJECTS; k++) {
-            make();
-        }
-        long bytes = (THREADS.getCurrentThreadAllocatedBytes() - before) / OBJECTS;
-        Check.same("an object of " + bytes + " bytes is small", true, bytes < MOST_BYTES_OF_AN_OBJECT);
-
-        fill();
+        // the first time the machine makes things of its own
+        makeMany();
         run();
+        long before = THREADS.getCurrentThreadAllocatedBytes();
+        makeMany();
+        long bytes = THREADS.getCurrentThreadAllocatedBytes() - before;
+        Check.same("a run of objects, " + bytes + " bytes, fits in", true, bytes < MOST_BYTES_OF_A_RUN);
+
         before = THREADS.getCurrentThreadAllocatedBytes();
         run();
         bytes = THREADS.getCurrentThreadAllocatedBytes() - before;
-        Check.same("a run of " + bytes + " bytes is small", true, bytes < MOST_BYTES_OF_A_RUN);
+        Check.same("a run of calls, " + bytes + " bytes, fits in", true, bytes < MOST_BYTES_OF_A_RUN);
         Check.same("it has answered", true, sum != 0);
         Check.end();
+    }
+
+    private static void makeMany() {
+        for (int k = 0; k < CALLS; k++) {
+            make();
+        }
     }
 
     private static void make() {
         kept = new ChangeUntangler();
     }
 
+    /** 48 calls. */
     private static void fill() {
         for (int k = 0; k < 14; k++) {
             kept.addPiece(k % 10, 10 * k, k, k);
@@ -51,7 +55,9 @@ public final class RoomTest {
     }
 
     private static void run() {
-        for (int k = 0; k < CALLS / 4; k++) {
+        make();
+        fill();
+        for (int k = 0; k < (CALLS - 48) / 5; k++) {
             kept.setName(k % 16, k % 3 == 0, k % 10);
             kept.setPurpose(k % 14, k % 10);
             sum += kept.best(0) + kept.leastBreakage();
