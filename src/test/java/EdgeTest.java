@@ -323,7 +323,12 @@ public final class EdgeTest {
         x.setWeight(NEAR, 1);
         Check.same("linkage 1, threshold 1", 1, x.groupCount());
         x.setWeight(NEAR, 0);
-        Check.same("linkage 0, threshold 1", 2, x.groupCount());
+        for (int manner = 0; manner < 3; manner++) {
+            x.setManner(manner);
+            Check.same("linkage 0", 0, x.linkage(0, 1));
+            Check.same("linkage 0, threshold 1", 2, x.groupCount());
+        }
+        x.setManner(1);
         x.setThreshold(999);
         x.setWeight(FLOW, 50);
         x.setWeight(ALIKE, 48);
